@@ -27,6 +27,9 @@ public final class LabelStacks {
     private static final int LINK_LABEL = 100;
     private static final int BINDING_LABEL = 200;
 
+    /** Each LABEL of a full STACK may be a BINDING's, which counts beside those that it stands for. */
+    private static final int LABELS_EVER = STACK_LIMIT * (1 + BOUND_LIMIT);
+
     /** Above every FAR that can be, and low enough that three of them added up are still an int. */
     private static final int UNREACHED = 1_000_000;
     /** Above every number of LABELS that can be. */
@@ -598,6 +601,12 @@ public final class LabelStacks {
         return set;
     }
 
+    private static int[] rowOfNone(int width) {
+        int[] row = new int[Math.max(0, width)];
+        Arrays.fill(row, NONE);
+        return row;
+    }
+
     private static int leastOf(int set) {
         return set == 0 ? NONE : Integer.bitCount((set & -set) - 1);
     }
@@ -696,8 +705,9 @@ public final class LabelStacks {
         without.findAll(net, link);
         int now = fewestAt(link, own);
         int last = own;
-        for (int cost = own + step; cost >= 1 && cost <= AMOUNT_LIMIT; cost += step) {
-            if (fewestAt(link, cost) != now) {
+        for (int away = 1; away < AMOUNT_LIMIT; away++) {
+            int cost = own + step * away;
+            if (!isAmount(cost) || fewestAt(link, cost) != now) {
                 break;
             }
             last = cost;
@@ -839,8 +849,7 @@ public final class LabelStacks {
             from = new int[LINK_LIMIT];
             to = new int[LINK_LIMIT];
             cost = new int[LINK_LIMIT];
-            holder = new int[BINDING_LIMIT];
-            Arrays.fill(holder, NONE);
+            holder = rowOfNone(BINDING_LIMIT);
             bound = new Rows(BINDING_LIMIT, BOUND_LIMIT);
         }
 
@@ -854,10 +863,6 @@ public final class LabelStacks {
 
         boolean isUp(int l) {
             return l >= 0 && l < linkCount && (upSet >>> l & 1) != 0;
-        }
-
-        boolean isHeldAt(int b, int node) {
-            return b >= 0 && b < BINDING_LIMIT && node != NONE && holder[b] == node;
         }
 
         void setUp(int l, boolean up) {
@@ -917,8 +922,7 @@ public final class LabelStacks {
 
         State() {
             net = new Network();
-            demandNode = new int[DEMAND_LIMIT];
-            Arrays.fill(demandNode, NONE);
+            demandNode = rowOfNone(DEMAND_LIMIT);
             demandVolume = new int[DEMAND_LIMIT];
             demandStack = new Rows(DEMAND_LIMIT, STACK_LIMIT);
             kept = new Rows(KEPT_LIMIT, WAY_LIMIT);
@@ -1310,7 +1314,9 @@ public final class LabelStacks {
         Fractions(int width) {
             above = new long[Math.max(0, width)];
             below = new long[Math.max(0, width)];
-            Arrays.fill(below, 1L);
+            for (int i = 0; i < below.length; i++) {
+                below[i] = 1L;
+            }
         }
 
         void clear() {
@@ -1342,6 +1348,12 @@ public final class LabelStacks {
             below[i] = under / lower;
         }
 
+        void addOne(int i) {
+            if (i >= 0 && i < above.length) {
+                above[i] += below[i];
+            }
+        }
+
         void addAll(Fractions other, int times) {
             for (int i = 0; i < above.length && i < other.above.length; i++) {
                 add(i, other.above[i] * times, other.below[i]);
@@ -1362,7 +1374,7 @@ public final class LabelStacks {
                 x = y;
                 y = rest;
             }
-            return Math.max(1L, x);
+            return x < 1 ? 1 : x;
         }
     }
 
@@ -1371,11 +1383,13 @@ public final class LabelStacks {
         final Row stack;
         final Row trail;
         final Fractions shares;
-        final Fractions parts;
+        final int[] left;
+        int leftCount;
+        final long[] parts;
+        final long[] flows;
         int node;
         int hops;
         int highest;
-        int come;
         int droppedAt;
         boolean isExact;
 
@@ -1383,7 +1397,9 @@ public final class LabelStacks {
             stack = new Row(STACK_LIMIT);
             trail = new Row(WAY_LIMIT);
             shares = new Fractions(LINK_LIMIT);
-            parts = new Fractions(NODE_LIMIT);
+            left = new int[STACK_LIMIT + BOUND_LIMIT];
+            parts = new long[NODE_LIMIT];
+            flows = new long[LINK_LIMIT];
             droppedAt = NONE;
         }
 
@@ -1396,74 +1412,72 @@ public final class LabelStacks {
         }
 
         void run(Network net, Routes routes, int start) {
+            begin(start);
+            for (int come = 0; come < LABELS_EVER && leftCount > 0; come++) {
+                leftCount--;
+                int label = left[leftCount];
+                boolean goes = label >= BINDING_LABEL ? unfolds(net, label - BINDING_LABEL)
+                    : label >= LINK_LABEL ? goesAlong(net, label - LINK_LABEL)
+                    : goesTo(net, routes, label);
+                if (!goes) {
+                    droppedAt = come;
+                    isExact = false;
+                    return;
+                }
+                highest = Math.max(highest, leftCount);
+            }
+        }
+
+        /** The first LABEL lies last in 'left', so that those of a BINDING are put ahead at its end. */
+        private void begin(int start) {
             node = start;
             hops = 0;
             highest = stack.size;
-            come = 0;
             droppedAt = NONE;
             isExact = true;
             trail.size = 0;
             shares.clear();
-            for (int i = 0; i < stack.size && droppedAt == NONE; i++) {
-                int label = stack.items[i];
-                if (label >= BINDING_LABEL) {
-                    goBound(net, routes, label - BINDING_LABEL, stack.size - i - 1);
-                } else {
-                    goBy(net, routes, label);
-                }
+            leftCount = 0;
+            for (int i = stack.size - 1; i >= 0; i--) {
+                left[leftCount] = stack.items[i];
+                leftCount++;
             }
         }
 
-        private void goBound(Network net, Routes routes, int b, int behind) {
-            if (!net.isHeldAt(b, node)) {
-                drop();
-                return;
+        private boolean unfolds(Network net, int b) {
+            if (b < 0 || b >= BINDING_LIMIT || net.holder[b] != node) {
+                return false;
             }
-            come++;
-            int size = net.bound.sizes[b];
-            highest = Math.max(highest, behind + size);
-            for (int j = 0; j < size && droppedAt == NONE; j++) {
-                goBy(net, routes, net.bound.get(b, j));
+            for (int j = net.bound.sizes[b] - 1; j >= 0 && leftCount < left.length; j--) {
+                left[leftCount] = net.bound.get(b, j);
+                leftCount++;
             }
+            return true;
         }
 
-        private void drop() {
-            droppedAt = come;
-            isExact = false;
-        }
-
-        private void goBy(Network net, Routes routes, int label) {
-            if (label >= LINK_LABEL) {
-                goLink(net, label - LINK_LABEL);
-            } else {
-                goNode(net, routes, label);
-            }
-            if (droppedAt == NONE) {
-                come++;
-            }
-        }
-
-        private void goLink(Network net, int l) {
+        private boolean goesAlong(Network net, int l) {
             if (!net.isUp(l) || net.from[l] != node) {
-                drop();
-                return;
+                return false;
             }
             pass(net, l);
+            return true;
         }
 
-        private void goNode(Network net, Routes routes, int v) {
+        private boolean goesTo(Network net, Routes routes, int v) {
             if (!net.hasNode(v) || routes.distance(node, v) >= UNREACHED) {
-                drop();
-            } else if (routes.countOf(node, v) == 1) {
+                return false;
+            }
+            if (routes.countOf(node, v) == 1) {
                 walk(net, routes, v);
             } else {
                 isExact = false;
                 spread(net, routes, v);
             }
+            return true;
         }
 
         private void pass(Network net, int l) {
-            shares.add(l, 1, 1);
+            shares.addOne(l);
             trail.add(l);
             hops++;
             node = net.to[l];
@@ -1479,10 +1493,19 @@ public final class LabelStacks {
             }
         }
 
-        /** From the farthest NODE on, so that a NODE has all of its part when it hands it on. */
+        /**
+         * The packet as so many whole pieces that they can always be parted: at most as many times at
+         * each NODE as LINKS go on from it. From the farthest NODE on, so that a NODE has all of its
+         * part when it hands it on.
+         */
         private void spread(Network net, Routes routes, int v) {
-            parts.clear();
-            parts.add(node, 1, 1);
+            Arrays.fill(parts, 0L);
+            Arrays.fill(flows, 0L);
+            long pieces = 1;
+            for (int u = 0; u < net.nodeCount; u++) {
+                pieces *= Math.max(1, Integer.bitCount(routes.onSet(net, u, v)));
+            }
+            parts[node] = pieces;
             int open = (1 << net.nodeCount) - 1 & ~(1 << v);
             for (int turn = 0; turn < net.nodeCount; turn++) {
                 int u = farthest(routes, v, open);
@@ -1492,6 +1515,9 @@ public final class LabelStacks {
                 open &= ~(1 << u);
                 handOn(net, u, routes.onSet(net, u, v));
             }
+            for (int l = 0; l < net.linkCount; l++) {
+                shares.add(l, flows[l], pieces);
+            }
             node = v;
         }
 
@@ -1499,7 +1525,7 @@ public final class LabelStacks {
             int best = NONE;
             int most = 0;
             for (int u = 0; u < NODE_LIMIT; u++) {
-                if ((open >>> u & 1) == 0 || parts.isZero(u)) {
+                if ((open >>> u & 1) == 0 || parts[u] == 0) {
                     continue;
                 }
                 if (routes.distance(u, v) > most) {
@@ -1511,12 +1537,11 @@ public final class LabelStacks {
         }
 
         private void handOn(Network net, int u, int set) {
-            long a = parts.above[u];
-            long b = parts.below[u] * Integer.bitCount(set);
+            long each = parts[u] / Math.max(1, Integer.bitCount(set));
             for (int l = 0; l < net.linkCount; l++) {
                 if ((set >>> l & 1) != 0) {
-                    shares.add(l, a, b);
-                    parts.add(net.to[l], a, b);
+                    flows[l] += each;
+                    parts[net.to[l]] += each;
                 }
             }
         }
@@ -1690,13 +1715,11 @@ public final class LabelStacks {
         }
 
         private boolean isLetterAt(int i) {
-            int sign = byteAt(i);
-            return sign >= 'a' && sign <= 'z';
+            return i >= 0 && i < size && bytes[i] >= 'a' && bytes[i] <= 'z';
         }
 
         private boolean isDigitAt(int i) {
-            int sign = byteAt(i);
-            return sign >= '0' && sign <= '9';
+            return i >= 0 && i < size && bytes[i] >= '0' && bytes[i] <= '9';
         }
 
         private boolean isWord(String word) {
