@@ -356,8 +356,7 @@ public final class LabelStacks {
         if (k < 1 || k > WRITABLE_LINKS || d < 1 || d > DEPTH_LIMIT) {
             return NONE;
         }
-        writer.beginCount(a, k, d, depth);
-        return writer.countBack(state.net, freshRoutes(), b, WRITABLE_LINKS, 1 << b);
+        return writer.countWays(state.net, freshRoutes(), a, b, k, d, depth);
     }
 
     public int stays(int link, int what) {
@@ -1267,20 +1266,22 @@ public final class LabelStacks {
             return count;
         }
 
-        void beginCount(int start, int mostLinks, int mostLabels, int mostDepth) {
+        /** WAYS from a to b of so many LINKS at most that take so many LABELS at most. */
+        int countWays(Network net, Routes routes, int a, int b, int mostLinks, int mostLabels, int mostDepth) {
             end = WRITABLE_LINKS;
             fewest[end] = 0;
             depth = mostDepth;
-            goal = start;
+            goal = a;
             lowest = end - mostLinks;
             labelLimit = mostLabels;
+            return countBack(net, routes, b, end, 1 << b);
         }
 
         /**
-         * Counts WAYS from their end back, since what the rest takes is shared by all that end so.
+         * Counts them from their end back, since what the rest takes is shared by all that end so.
          * 'place' is where the rest begins, and is the guard on the depth.
          */
-        int countBack(Network net, Routes routes, int node, int place, int seen) {
+        private int countBack(Network net, Routes routes, int node, int place, int seen) {
             if (place <= lowest || place <= 0 || place > end) {
                 return 0;
             }

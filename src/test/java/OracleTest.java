@@ -131,10 +131,41 @@ public final class OracleTest {
         check("label(" + label + ")", real.label(label), slow.label(label));
     }
 
+    /** A binding that may fit THE WAY, as those of random labels hardly ever do. */
+    private void bindAlong() {
+        int length = slow.look(4);
+        if (length == 0) {
+            return;
+        }
+        int place = random.nextInt(length);
+        int node = slow.linkOf(slow.at(place, 0), 0);
+        int start = node;
+        int held = slow.look(5);
+        check("pop(" + held + ")", real.pop(held), slow.pop(held));
+        for (int count = 1 + random.nextInt(6); count > 0; count--) {
+            int label = node;
+            if (place < length && random.nextInt(8) != 0) {
+                int links = 1 + random.nextInt(Math.min(2, length - place));
+                place += links;
+                node = slow.linkOf(slow.at(place - 1, 0), 1);
+                label = links == 1 && random.nextBoolean() ? 100 + slow.at(place - 1, 0) : node;
+            }
+            check("label(" + label + ")", real.label(label), slow.label(label));
+        }
+        int b = random.nextInt(6);
+        check("bind(" + b + ", " + start + ")", real.bind(b, start), slow.bind(b, start));
+        check("write()", real.write(), slow.write());
+        for (int i = 0; i < slow.look(5); i++) {
+            check("at(" + i + ", 1)", real.at(i, 1), slow.at(i, 1));
+        }
+    }
+
     private void step() {
         int kind = random.nextInt(100);
-        if (kind < 14) {
+        if (kind < 11) {
             goOn();
+        } else if (kind < 14) {
+            bindAlong();
         } else if (kind < 26) {
             goOnByLabel();
         } else if (kind < 40) {
@@ -387,14 +418,15 @@ public final class OracleTest {
     private StringBuilder someText() {
         StringBuilder text = new StringBuilder();
         int n = told(2, 10);
+        int top = Math.max(1, Math.min(n, 11) - 1);
         text.append(blanks(0)).append("nodes").append(blanks(0)).append(n).append(blanks(0)).append(';');
         int rows = random.nextInt(34);
         for (int i = 0; i < rows && text.length() < 480; i++) {
             if (random.nextInt(5) == 0) {
-                someBinding(text, n);
+                someBinding(text, top);
             } else {
-                int u = told(0, Math.max(1, n - 1));
-                int v = random.nextInt(60) == 0 ? u : (u + told(1, Math.max(1, n - 1))) % Math.max(1, n);
+                int u = told(0, top);
+                int v = random.nextInt(60) == 0 ? u : Math.floorMod(u + told(1, top), top + 1);
                 text.append(blanks(0)).append("link").append(blanks(0)).append(u).append(blanks(1))
                     .append(v).append(blanks(1)).append(told(1, costs)).append(blanks(0))
                     .append(random.nextInt(4) == 0 ? "down" : "").append(blanks(0)).append(';');
@@ -403,9 +435,9 @@ public final class OracleTest {
         return text.append(blanks(0));
     }
 
-    private void someBinding(StringBuilder text, int n) {
+    private void someBinding(StringBuilder text, int top) {
         text.append(blanks(0)).append("bind").append(blanks(0)).append(told(0, 5)).append(blanks(0)).append("at")
-            .append(blanks(0)).append(told(0, Math.max(0, n - 1))).append(blanks(0)).append(':');
+            .append(blanks(0)).append(told(0, top)).append(blanks(0)).append(':');
         for (int k = 1 + random.nextInt(random.nextInt(6) == 0 ? 7 : 6); k > 0; k--) {
             text.append(blanks(0));
             if (random.nextBoolean()) {

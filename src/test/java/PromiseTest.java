@@ -23,6 +23,8 @@ public final class PromiseTest {
         labelAndPop();
         write();
         writeWithBindings();
+        bindingsThatLeaveTheWay();
+        bindingDepth();
         witness();
         greedyAndCovers();
         farPathsNext();
@@ -51,6 +53,8 @@ public final class PromiseTest {
         for (int what = 0; what < first.length; what++) {
             due.is("1: look(" + what + ")", x.look(what), first[what]);
         }
+        due.is("1: far(0, 1)", x.far(0, 1), NONE);
+        due.is("1: paths(0, 1)", x.paths(0, 1), 0);
         due.is("1: look(14)", x.look(14), NONE);
         due.is("1: look(-1)", x.look(-1), NONE);
         due.is("1: image(false)", x.image(false), false);
@@ -301,6 +305,38 @@ public final class PromiseTest {
         due.is("22: two there, two behind", x.high(0), 4);
     }
 
+    /** All is doubled; a binding whose course is not the way's beginning is of no use, wherever it leaves it. */
+    private static void bindingsThatLeaveTheWay() {
+        String net = "nodes 5;link 0 1 1;link 0 1 1;link 1 2 1;link 1 2 1;link 2 0 1;link 0 3 1;link 3 4 1;";
+        String[] useless = {"n9 l0 l2", "n2 l0 l2", "n3 l0 l2", "n4 l0 l2", "l29 l0 l2", "l1 l0 l2", "l0 l2 l4 l0",
+            "l0 n2", "l0 l2 n3", "n0", "n0 n0 n0", "l0 l3", "l2 l0"};
+        for (String row : useless) {
+            LabelStacks x = Due.told(net + "bind 0 at 0:" + row + ";");
+            Due.way(x, 0, 2, 4);
+            due.is("13: without a binding of " + row, x.write(), 3);
+            due.row("13: without a binding of " + row, x, 1, 100, 102, 0);
+        }
+        String[] useful = {"l0 l2", "n0 l0 l2", "l0 n1 l2", "l0 l2 n2 n2", "n0 n0 l0 l2"};
+        for (String row : useful) {
+            LabelStacks x = Due.told(net + "bind 0 at 0:" + row + ";");
+            Due.way(x, 0, 2, 4);
+            due.is("13: with a binding of " + row, x.write(), 2);
+            due.row("13: with a binding of " + row, x, 1, 200, 0);
+            x.off(1);
+            due.is("13: to the way's end, " + row, x.write(), 1);
+            due.row("13: to the way's end, " + row, x, 1, 200);
+        }
+        LabelStacks x = Due.told(net + "bind 2 at 1:l2 n0 n0;bind 1 at 1:l2 l4;bind 0 at 0:l0;");
+        Due.way(x, 0, 2, 4);
+        due.is("13: of alike ones", x.write(), 2);
+        due.row("13: the least numbers", x, 1, 100, 201);
+        LabelStacks y = Due.told(net + "bind 0 at 0:l0 l2;");
+        y.state(0, false);
+        Due.way(y, 0, 2, 4);
+        due.is("13: a down link in a binding", y.write(), NONE);
+        due.is("14: it", y.witness(), 0);
+    }
+
     private static void bindingDepth() {
         LabelStacks x = Due.told("nodes 5;link 0 1 1;link 0 1 1;link 1 2 1;link 1 2 1;link 2 3 1;link 2 3 1;"
             + "link 3 4 1;link 3 4 1;bind 0 at 0:l0 l2 l4;bind 1 at 2:l4 l6;");
@@ -334,7 +370,6 @@ public final class PromiseTest {
     }
 
     private static void witness() {
-        bindingDepth();
         LabelStacks x = Due.told("nodes 4;link 0 1 1;link 1 2 1;link 2 3 1;link 3 0 1;");
         due.is("14: empty", x.witness(), NONE);
         Due.way(x, 0, 1, 2, 3);
