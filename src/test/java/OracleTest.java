@@ -418,7 +418,7 @@ public final class OracleTest {
     private StringBuilder someText() {
         StringBuilder text = new StringBuilder();
         int n = told(2, 10);
-        int top = Math.max(1, Math.min(n, 11) - 1);
+        int top = Math.max(2, Math.min(n, 11)) - 1;
         text.append(blanks(0)).append("nodes").append(blanks(0)).append(n).append(blanks(0)).append(';');
         int rows = random.nextInt(34);
         for (int i = 0; i < rows && text.length() < 480; i++) {
