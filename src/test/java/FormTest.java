@@ -1,3 +1,12 @@
+import com.sun.source.tree.ClassTree;
+import com.sun.source.tree.CompilationUnitTree;
+import com.sun.source.tree.MethodInvocationTree;
+import com.sun.source.tree.MethodTree;
+import com.sun.source.tree.NewClassTree;
+import com.sun.source.util.JavacTask;
+import com.sun.source.util.TreePathScanner;
+import com.sun.source.util.Trees;
+import java.io.IOException;
 import java.lang.reflect.Constructor;
 import java.lang.reflect.Field;
 import java.lang.reflect.Method;
@@ -5,10 +14,18 @@ import java.lang.reflect.Modifier;
 import java.nio.file.Files;
 import java.nio.file.Path;
 import java.util.Arrays;
+import java.util.LinkedHashMap;
+import java.util.LinkedHashSet;
+import java.util.List;
+import java.util.Map;
 import java.util.Set;
 import java.util.TreeSet;
 import java.util.regex.Matcher;
 import java.util.regex.Pattern;
+import javax.lang.model.element.Element;
+import javax.tools.JavaCompiler;
+import javax.tools.StandardJavaFileManager;
+import javax.tools.ToolProvider;
 
 /** The document's face, and the rules of LANGUAGE.md that can be read off the source or the class. */
 public final class FormTest {
@@ -30,7 +47,9 @@ public final class FormTest {
     public static void main(String[] args) throws Exception {
         face();
         classes();
-        source(Files.readString(Path.of(System.getProperty("source", "src/main/java/LabelStacks.java"))));
+        Path path = Path.of(System.getProperty("source", "src/main/java/LabelStacks.java"));
+        source(Files.readString(path));
+        callDepth(path);
         System.out.println("FormTest: " + wrong + " faults");
         if (wrong != 0) {
             System.exit(1);
@@ -136,6 +155,86 @@ public final class FormTest {
                 must(i - start < 60, "a long method, from line " + (start + 1));
                 start = -1;
             }
+        }
+    }
+
+    /** Calls that are no recursion go at most eight deep; a call of the library counts as one. */
+    private static void callDepth(Path path) throws IOException {
+        JavaCompiler compiler = ToolProvider.getSystemJavaCompiler();
+        try (StandardJavaFileManager files = compiler.getStandardFileManager(null, null, null)) {
+            JavacTask task = (JavacTask) compiler.getTask(null, files, null, List.of("-proc:none"), null,
+                files.getJavaFileObjects(path));
+            Calls calls = new Calls(Trees.instance(task));
+            Iterable<? extends CompilationUnitTree> units = task.parse();
+            task.analyze();
+            calls.scan(units, null);
+            for (Element made : calls.from.keySet()) {
+                int deep = calls.depthOf(made, new LinkedHashSet<>());
+                must(deep <= 8, made + " goes " + deep + " deep");
+            }
+            must(calls.from.size() > 100, "calls were not read: " + calls.from.size());
+        }
+    }
+
+    /** Which method calls which. */
+    private static final class Calls extends TreePathScanner<Void, Void> {
+        final Map<Element, Set<Element>> from = new LinkedHashMap<>();
+        private final Map<Element, Integer> known = new LinkedHashMap<>();
+        private final Trees trees;
+        private Element now;
+
+        Calls(Trees trees) {
+            this.trees = trees;
+        }
+
+        int depthOf(Element made, Set<Element> open) {
+            if (known.containsKey(made)) {
+                return known.get(made);
+            }
+            int deepest = 0;
+            open.add(made);
+            for (Element called : from.getOrDefault(made, Set.of())) {
+                if (!open.contains(called)) {
+                    deepest = Math.max(deepest, depthOf(called, open));
+                }
+            }
+            open.remove(made);
+            known.put(made, deepest + 1);
+            return deepest + 1;
+        }
+
+        @Override
+        public Void visitClass(ClassTree tree, Void nothing) {
+            Element before = now;
+            super.visitClass(tree, nothing);
+            now = before;
+            return null;
+        }
+
+        @Override
+        public Void visitMethod(MethodTree tree, Void nothing) {
+            now = trees.getElement(getCurrentPath());
+            from.putIfAbsent(now, new LinkedHashSet<>());
+            super.visitMethod(tree, nothing);
+            now = null;
+            return null;
+        }
+
+        @Override
+        public Void visitMethodInvocation(MethodInvocationTree tree, Void nothing) {
+            return called(trees.getElement(getCurrentPath()), super.visitMethodInvocation(tree, nothing));
+        }
+
+        @Override
+        public Void visitNewClass(NewClassTree tree, Void nothing) {
+            return called(trees.getElement(getCurrentPath()), super.visitNewClass(tree, nothing));
+        }
+
+        private Void called(Element method, Void nothing) {
+            if (now != null && method != null) {
+                from.get(now).add(method);
+            }
+            return nothing;
         }
     }
 }

@@ -1,12 +1,16 @@
 import java.util.ArrayDeque;
 import java.util.Deque;
+import java.util.List;
 import java.util.Random;
+import java.util.stream.Collectors;
+import java.util.stream.LongStream;
 
 /** Random runs of calls, each answer held against SlowModel's; the seeds are fixed. */
 public final class OracleTest {
-    private static final int RUNS = Integer.getInteger("runs", 400);
+    private static final int RUNS = Integer.getInteger("runs", 600);
     private static final int CALLS = 512;
 
+    private final long seed;
     private final Random random;
     private final LabelStacks real = new LabelStacks();
     private final SlowModel slow = new SlowModel();
@@ -17,21 +21,22 @@ public final class OracleTest {
     private boolean wrong;
 
     private OracleTest(long seed) {
+        this.seed = seed;
         random = new Random(seed);
         costs = new int[] {1, 2, 3, 5, 20, 99}[random.nextInt(6)];
         size = 2 + random.nextInt(9);
     }
 
     public static void main(String[] args) {
+        List<OracleTest> done = LongStream.rangeClosed(1, RUNS).parallel().mapToObj(OracleTest::new)
+            .peek(OracleTest::go).collect(Collectors.toList());
         int bad = 0;
         int all = 0;
-        for (long seed = 1; seed <= RUNS && bad < 3; seed++) {
-            OracleTest run = new OracleTest(seed);
-            run.go();
+        for (OracleTest run : done) {
             all += run.calls;
-            if (run.wrong) {
-                bad++;
-                System.out.println("OracleTest: seed " + seed + ", call " + run.calls + ", the last calls:");
+            bad += run.wrong ? 1 : 0;
+            if (run.wrong && bad <= 3) {
+                System.out.println("OracleTest: seed " + run.seed + ", call " + run.calls + ", the last calls:");
                 run.log.forEach(System.out::println);
             }
         }

@@ -406,6 +406,7 @@ final class SlowModel {
         final List<Integer> way;
         final int start;
         final Map<Integer, List<Integer>> coursesAt = new HashMap<>();
+        final Map<Integer, Integer> leastAt = new HashMap<>();
         final List<Integer> labels = new ArrayList<>();
         final List<Integer> covered = new ArrayList<>();
         List<Integer> best;
@@ -416,7 +417,22 @@ final class SlowModel {
             start = w.links.get(way.get(0))[0];
         }
 
+        /** How many labels the rest takes at least, however high; those that can't come to the end are not tried. */
+        private int least(int place) {
+            return leastAt.computeIfAbsent(place, key -> {
+                int best = place == way.size() ? 0 : 1000;
+                for (int label = 0; label < 206 && place < way.size(); label++) {
+                    int c = covers(place, label);
+                    best = c > 0 ? Math.min(best, 1 + least(place + c)) : best;
+                }
+                return best;
+            });
+        }
+
         List<Integer> find() {
+            for (int place = way.size(); place >= 0; place--) {
+                least(place);
+            }
             for (int length = 1; length <= depth && best == null; length++) {
                 extend(0, length);
             }
@@ -440,7 +456,7 @@ final class SlowModel {
                 }
                 return;
             }
-            if (left == 0) {
+            if (left < least(place)) {
                 return;
             }
             for (int label = 0; label < 206; label++) {
