@@ -10,7 +10,9 @@ final class Nets {
     static final String TWIN_CHAIN = "nodes 5;link 0 1 1;link 0 1 1;link 1 2 1;link 1 2 1;link 2 3 1;link 2 3 1;"
         + "link 3 4 1;link 3 4 1;";
 
-    static final int[] WILD = {Integer.MIN_VALUE, Integer.MIN_VALUE + 1, -1000, -100, Integer.MAX_VALUE - 1, Integer.MAX_VALUE};
+    /** Numbers that can't be for any call: far out, or 0 and 1 again once a byte, a short or an int has wrapped around. */
+    static final int[] WILD = {Integer.MIN_VALUE, Integer.MIN_VALUE + 1, -1000, -256, -255, -100, 256, 257, 65536, 65537, 1 << 30,
+        Integer.MAX_VALUE - 1, Integer.MAX_VALUE};
 
     private Nets() {
     }

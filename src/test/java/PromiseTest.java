@@ -4,9 +4,7 @@ public final class PromiseTest {
     private static final Due due = new Due("PromiseTest");
     private static final int[] WILD = {Integer.MIN_VALUE, -1000, -2, -1, 30, 99999, Integer.MAX_VALUE};
 
-    /** Two ways alike from 0 to 3, and a dear one back. */
-    private static final String DIAMOND =
-        "nodes 4;link 0 1 1;link 1 3 1;link 0 2 1;link 2 3 1;link 3 0 5;";
+    private static final String DIAMOND = Nets.DIAMOND;
     /** One link behind the other, 0 to 5, each costing 1. */
     private static final String CHAIN =
         "nodes 6;link 0 1 1;link 1 2 1;link 2 3 1;link 3 4 1;link 4 5 1;";

@@ -22,7 +22,9 @@ import java.util.regex.Pattern;
  * or of a promise that no test quotes.
  */
 final class Sentences {
+    private static final String USE = "Use";
     private static final String TERMS = "Terms";
+    private static final String CONSTANTS = "Constants";
 
     private final Due due = new Due("BoundaryTest");
     private final Map<String, String> texts = new LinkedHashMap<>();
@@ -34,7 +36,9 @@ final class Sentences {
 
     Sentences(Path document) throws IOException {
         String all = Files.readString(document);
+        section(USE, all, "\n(An object is used [^\n]*)\n");
         section(TERMS, all, "## Terms\n(.*?)\nThe constants:");
+        section(CONSTANTS, all, "\nThe constants: ([^\n]*)\n");
         for (int promise = 1; promise <= 44; promise++) {
             section(Integer.toString(promise), all, "## Promise " + promise + ": [^\n]*\n+`[^`]*`: ([^\n]*)\n");
         }
@@ -60,6 +64,15 @@ final class Sentences {
     /** The sentence of the terms that the test stands for. */
     void term(String quote) {
         quote(TERMS, quote);
+    }
+
+    /** What the document says of an object's calls. */
+    void use(String quote) {
+        quote(USE, quote);
+    }
+
+    void constant(String quote) {
+        quote(CONSTANTS, quote);
     }
 
     private void quote(String section, String quote) {

@@ -14,6 +14,8 @@ final class StateBoundaries {
         int acts = x.look(9);
         act.accept(x);
         s.is(what + " is one act", x.look(9), acts + 1);
+        int tape = x.look(10);
+        int fault = x.fault(1);
         x.off(x.look(4));
         x.on(0);
         Due.labels(x, 205, 9, 129);
@@ -22,6 +24,8 @@ final class StateBoundaries {
         s.same(what + ", all as ahead of it", Seen.world(x), before);
         s.same(what + ", the stack and depth stay", Seen.hand(x), "stack [205, 9, 129], depth 11\n");
         s.is(what + ", far as ahead of it", x.far(1, 2), 7);
+        s.is(what + ", the tape stays", x.look(10), tape);
+        s.is(what + ", the fault stays", x.fault(1), fault);
     }
 
     private static void isNoAct(Sentences s, String what, Consumer<LabelStacks> call) {
@@ -29,6 +33,28 @@ final class StateBoundaries {
         int acts = x.look(9);
         call.accept(x);
         s.is(what + " is no act", x.look(9), acts);
+    }
+
+    // ---- what stands outside the terms and promises ----
+
+    static void useFiveHundredTwelveCalls(Sentences s) {
+        s.use("An object is used for at most 512 calls after it has been made; what later calls answer is free.");
+        LabelStacks x = new LabelStacks();
+        x.link(0, 1, 1);
+        for (int call = 2; call < 512; call++) {
+            s.is("call " + call, x.cost(0, 1 + call % 99), call == 2 ? 1 : 1 + (call - 1) % 99);
+        }
+        s.is("the last one", x.far(0, 1), 1 + 511 % 99);
+        LabelStacks y = new LabelStacks();
+        y.image(true);
+        for (int call = 2; call <= 512; call++) {
+            s.is("call " + call, call % 2 == 0 ? y.nodes(10) : y.image(false), true);
+        }
+    }
+
+    static void constantNone(Sentences s) {
+        s.constant("`NONE = -1`: None.");
+        s.is("NONE", LabelStacks.NONE, -1);
     }
 
     // ---- the terms ----

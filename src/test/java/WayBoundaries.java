@@ -276,6 +276,12 @@ final class WayBoundaries {
             s.is("at no node twice, from " + a, z.writable(a, (a + 2) % 5, 6, 12), 1 + 3 + 6 + 6);
             s.is("three links at most, from " + a, z.writable(a, (a + 1) % 5, 3, 12), 1 + 3 + 6);
         }
+        LabelStacks v = Due.told(Nets.TWIN_CHAIN + "bind 0 at 0:l0 l2 l4;");
+        s.is("sixteen of four labels", v.writable(0, 4, 4, 4), 16);
+        s.is("none of three", v.writable(1, 4, 4, 2), 0);
+        s.is("a binding makes two of them shorter", v.writable(0, 4, 4, 2), 2);
+        v.depth(3);
+        s.is("and too high", v.writable(0, 4, 4, 4), 0);
         LabelStacks y = Nets.longChain(99);
         s.is("six links", y.writable(0, 6, 6, 1), 1);
         s.is("seven links can't be", y.writable(0, 7, 6, 1), 0);
