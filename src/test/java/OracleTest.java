@@ -8,6 +8,7 @@ import java.util.stream.LongStream;
 /** Random runs of calls, each answer held against SlowModel's; the seeds are fixed. */
 public final class OracleTest {
     private static final int RUNS = Integer.getInteger("runs", 600);
+    private static final long FIRST = Long.getLong("first", 1L);
     private static final int CALLS = 512;
 
     private final long seed;
@@ -28,7 +29,7 @@ public final class OracleTest {
     }
 
     public static void main(String[] args) {
-        List<OracleTest> done = LongStream.rangeClosed(1, RUNS).parallel().mapToObj(OracleTest::new)
+        List<OracleTest> done = LongStream.range(FIRST, FIRST + RUNS).parallel().mapToObj(OracleTest::new)
             .peek(OracleTest::go).collect(Collectors.toList());
         int bad = 0;
         int all = 0;
