@@ -303,10 +303,7 @@ public final class LabelStacks {
         layLoads();
         int best = NONE;
         for (int l = 0; l < state.net.linkCount; l++) {
-            if (loads.isZero(l)) {
-                continue;
-            }
-            if (best == NONE || loads.isGreater(l, best)) {
+            if (loads.isGreater(l, best)) {
                 best = l;
             }
         }
@@ -338,13 +335,13 @@ public final class LabelStacks {
         int mostCost = 0;
         int costSoFar = 0;
         for (int i = 0; i < way.size; i++) {
-            int link = way.items[i];
+            int link = way.get(i);
             if (foundRound(link, goal) && planned(round)) {
                 set |= 1 << i;
                 mostLabels = Math.max(mostLabels, writer.fewest[0]);
                 mostCost = Math.max(mostCost, costSoFar + state.net.costOf(round));
             }
-            costSoFar += state.net.cost[link];
+            costSoFar += state.net.priceOf(link);
         }
         return what == 0 ? set : what == 1 ? mostLabels : mostCost;
     }
@@ -615,7 +612,7 @@ public final class LabelStacks {
             return false;
         }
         for (int i = 0; i < stack.size; i++) {
-            if (stack.items[i] >= BINDING_LABEL) {
+            if (stack.get(i) >= BINDING_LABEL) {
                 return false;
             }
         }
@@ -629,12 +626,11 @@ public final class LabelStacks {
     }
 
     private int wayStart() {
-        return state.way.size == 0 ? NONE : state.net.from[state.way.items[0]];
+        return state.net.fromOf(state.way.get(0));
     }
 
     private int wayEnd() {
-        int size = state.way.size;
-        return size == 0 ? NONE : state.net.to[state.way.items[size - 1]];
+        return state.net.toOf(state.way.get(state.way.size - 1));
     }
 
     private Routes freshRoutes() {
@@ -679,7 +675,7 @@ public final class LabelStacks {
     /** Puts the REPAIR's WAY into 'round'; the least LINK each time makes it the first as a row. */
     private boolean foundRound(int link, int goal) {
         Network net = state.net;
-        int node = net.from[link];
+        int node = net.fromOf(link);
         round.size = 0;
         without.findToward(net, goal, link);
         if (node == goal || without.distance(node, goal) >= UNREACHED) {
@@ -692,7 +688,7 @@ public final class LabelStacks {
                 return false;
             }
             round.add(first);
-            node = net.to[first];
+            node = net.toOf(first);
         }
         return node == goal;
     }
@@ -799,7 +795,7 @@ public final class LabelStacks {
         void put(int row, Row from) {
             empty(row);
             for (int i = 0; i < from.size; i++) {
-                add(row, from.items[i]);
+                add(row, from.get(i));
             }
         }
 
@@ -815,7 +811,7 @@ public final class LabelStacks {
                 return false;
             }
             for (int i = 0; i < other.size; i++) {
-                if (get(row, i) != other.items[i]) {
+                if (get(row, i) != other.get(i)) {
                     return false;
                 }
             }
@@ -868,16 +864,28 @@ public final class LabelStacks {
             upSet = up ? upSet | 1 << l : upSet & ~(1 << l);
         }
 
+        int fromOf(int l) {
+            return l >= 0 && l < linkCount ? from[l] : NONE;
+        }
+
+        int toOf(int l) {
+            return l >= 0 && l < linkCount ? to[l] : NONE;
+        }
+
+        int priceOf(int l) {
+            return l >= 0 && l < linkCount ? cost[l] : 0;
+        }
+
         int costOf(Row way) {
             int sum = 0;
             for (int i = 0; i < way.size; i++) {
-                sum += cost[way.items[i]];
+                sum += priceOf(way.get(i));
             }
             return sum;
         }
 
         int addLink(int u, int v, int price, boolean up) {
-            if (linkCount >= LINK_LIMIT) {
+            if (linkCount >= LINK_LIMIT || !hasNode(u) || !hasNode(v)) {
                 return NONE;
             }
             int l = linkCount;
@@ -994,26 +1002,21 @@ public final class LabelStacks {
         }
 
         int distance(int u, int v) {
-            return distances[v * NODE_LIMIT + u];
+            boolean there = u >= 0 && u < NODE_LIMIT && v >= 0 && v < NODE_LIMIT;
+            return there ? distances[v * NODE_LIMIT + u] : UNREACHED;
         }
 
         long countOf(int u, int v) {
-            return counts[v * NODE_LIMIT + u];
-        }
-
-        boolean isOn(Network net, int l, int v) {
-            if ((net.upSet >>> l & 1) == 0) {
-                return false;
-            }
-            int row = v * NODE_LIMIT;
-            int far = distances[row + net.from[l]];
-            return far < UNREACHED && net.cost[l] + distances[row + net.to[l]] == far;
+            boolean there = u >= 0 && u < NODE_LIMIT && v >= 0 && v < NODE_LIMIT;
+            return there ? counts[v * NODE_LIMIT + u] : 0;
         }
 
         int onSet(Network net, int u, int v) {
+            int far = distance(u, v);
             int set = 0;
-            for (int l = 0; l < net.linkCount; l++) {
-                if (net.from[l] == u && isOn(net, l, v)) {
+            for (int l = 0; l < net.linkCount && far < UNREACHED; l++) {
+                boolean leaves = net.from[l] == u && (net.upSet >>> l & 1) != 0;
+                if (leaves && net.cost[l] + distance(net.to[l], v) == far) {
                     set |= 1 << l;
                 }
             }
@@ -1029,6 +1032,9 @@ public final class LabelStacks {
 
         /** The nearest NODE each time: COSTS are above 0, so what is known of it is final. */
         void findToward(Network net, int v, int barred) {
+            if (!net.hasNode(v)) {
+                return;
+            }
             int row = v * NODE_LIMIT;
             for (int u = 0; u < NODE_LIMIT; u++) {
                 distances[row + u] = UNREACHED;
@@ -1144,12 +1150,12 @@ public final class LabelStacks {
             reach[i] = 0;
             int most = nodeReach(net, routes, i);
             for (int covered = 1; covered <= most; covered++) {
-                offer(i, covered, net.to[links[i + covered - 1]], 1);
+                offer(i, covered, net.toOf(links[i + covered - 1]), 1);
             }
             if (net.isUp(links[i])) {
                 offer(i, 1, LINK_LABEL + links[i], 1);
             }
-            int node = net.from[links[i]];
+            int node = net.fromOf(links[i]);
             for (int b = 0; b < BINDING_LIMIT; b++) {
                 if (net.holder[b] == node) {
                     offer(i, bindingReach(net, routes, b, i), BINDING_LABEL + b, net.bound.sizes[b]);
@@ -1184,12 +1190,12 @@ public final class LabelStacks {
          * way is one too, so that all lower numbers can be covered and the first failure ends it.
          */
         int nodeReach(Network net, Routes routes, int i) {
-            int u = net.from[links[i]];
+            int u = net.fromOf(links[i]);
             int sum = 0;
             for (int p = i; p < end; p++) {
                 int l = links[p];
-                int v = net.to[l];
-                sum += net.cost[l];
+                int v = net.toOf(l);
+                sum += net.priceOf(l);
                 if (!net.isUp(l) || routes.distance(u, v) != sum || routes.countOf(u, v) != 1) {
                     return p - i;
                 }
@@ -1218,19 +1224,19 @@ public final class LabelStacks {
             if (!net.hasNode(label)) {
                 return NONE;
             }
-            int u = p < end ? net.from[links[p]] : net.to[links[end - 1]];
+            int u = p < end ? net.fromOf(links[p]) : net.toOf(links[end - 1]);
             if (u == label) {
                 return p;
             }
             if (routes.countOf(u, label) != 1) {
                 return NONE;
             }
-            for (int q = p; q < end; q++) {
-                if (!routes.isOn(net, links[q], label)) {
-                    return NONE;
-                }
-                if (net.to[links[q]] == label) {
-                    return q + 1;
+            int sum = 0;
+            for (int q = p; q < end && net.isUp(links[q]); q++) {
+                sum += net.priceOf(links[q]);
+                if (net.toOf(links[q]) == label) {
+                    // As PATHS are 1, a row that costs no more than FAR is the one that it goes.
+                    return sum == routes.distance(u, label) ? q + 1 : NONE;
                 }
             }
             return NONE;
@@ -1326,11 +1332,10 @@ public final class LabelStacks {
         }
 
         long get(int i, int what) {
+            if (i < 0 || i >= above.length) {
+                return NONE;
+            }
             return what == 0 ? above[i] : below[i];
-        }
-
-        boolean isZero(int i) {
-            return above[i] == 0;
         }
 
         /**
@@ -1361,7 +1366,14 @@ public final class LabelStacks {
             }
         }
 
+        /** A place that is none, as the best one is at first, counts as 0. */
         boolean isGreater(int i, int j) {
+            if (i < 0 || i >= above.length) {
+                return false;
+            }
+            if (j < 0 || j >= above.length) {
+                return above[i] > 0;
+            }
             long common = divisor(below[i], below[j]);
             return above[i] * (below[j] / common) > above[j] * (below[i] / common);
         }

@@ -118,6 +118,13 @@ final class WayBoundaries {
         LabelStacks z = Due.told(TRIANGLE + "link 0 1 1;bind 0 at 1:l0 l1;");
         Due.way(z, 0, 1);
         writes(s, "a binding held elsewhere", z, 100, 2);
+        LabelStacks dear = Due.told("nodes 3;link 0 1 2;link 1 2 2;link 0 1 2;link 0 2 3;bind 0 at 0:n2;");
+        Due.way(dear, 0, 1);
+        writes(s, "a binding's node that is nearer by another link", dear, 100, 2);
+        LabelStacks down = Due.told("nodes 2;link 0 1 1 down;link 0 1 1;bind 0 at 0:n1;");
+        Due.way(down, 0);
+        s.is("a binding's node by the up link that is like the way's down one", down.write(), LabelStacks.NONE);
+        s.is("whose place is told", down.witness(), 0);
     }
 
     static void termFewestOfSeveral(Sentences s) {
